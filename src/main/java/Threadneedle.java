@@ -252,7 +252,7 @@ public final class Threadneedle {
     }
 
     public int changesAnew(int design) throws IndexOutOfBoundsException {
-        return designAt(design).sequencer.fewestOfAllOrders(0, NONE, 0);
+        return designAt(design).sequencer.fewestOfAllOrders();
     }
 
     public int jumps(int design, boolean isHidden) throws IndexOutOfBoundsException {
@@ -515,16 +515,21 @@ public final class Threadneedle {
             return best;
         }
 
+        int fewestOfAllOrders() {
+            return tryOrders(this, 0, NONE, 0);
+        }
+
         /** Tries every order that goes on from the shapes sewn; returns the fewest changes of its rest. */
-        int fewestOfAllOrders(int sewn, int latest, int depth) {
-            if (depth >= shapes.length) {
+        private static int tryOrders(Sequencer of, int sewn, int latest, int depth) {
+            int count = of.shapes.length;
+            if (depth >= count) {
                 return 0;
             }
-            int fewest = shapes.length;
-            for (int next = 0; next < shapes.length; next++) {
-                if (mayFollow(sewn, next)) {
-                    int rest = fewestOfAllOrders(sewn | 1 << next, next, depth + 1);
-                    fewest = Math.min(fewest, change(latest, next) + rest);
+            int fewest = count;
+            for (int next = 0; next < count; next++) {
+                if (of.mayFollow(sewn, next)) {
+                    int rest = tryOrders(of, sewn | 1 << next, next, depth + 1);
+                    fewest = Math.min(fewest, of.change(latest, next) + rest);
                 }
             }
             return fewest;
