@@ -2,7 +2,7 @@ import java.util.ArrayList;
 import java.util.List;
 
 /** Counts answers that are due and those that are not; what the tests share. */
-final class Checks {
+class Checks {
     interface Call {
         long on(Threadneedle house);
     }
@@ -12,6 +12,7 @@ final class Checks {
     }
 
     private final String test;
+    private String about = "";
     private int passed = 0;
     private int failed = 0;
 
@@ -19,12 +20,21 @@ final class Checks {
         this.test = test;
     }
 
+    /** What the answers that follow are about is told with each one that is not due. */
+    void about(String about) {
+        this.about = about + ": ";
+    }
+
+    int count() {
+        return passed + failed;
+    }
+
     void due(String call, Object got, Object want) {
         if (want.equals(got)) {
             passed++;
         } else {
             failed++;
-            System.out.println(test + ": " + call + " answered " + got + ", due is " + want);
+            System.out.println(test + ": " + about + call + " answered " + got + ", due is " + want);
         }
     }
 
@@ -32,12 +42,38 @@ final class Checks {
         due(call, (Object) got, (Object) want);
     }
 
-    /** Of two houses that are made alike one refuses a call; then all that can be asked of both is alike. */
+    /** All that can be asked of an order, from its state on. */
+    void orderDue(String when, Threadneedle house, int order, String want) {
+        due("ofOrder " + order + " " + when, inARow(6, what -> house.ofOrder(order, what)), want);
+    }
+
+    /** All that can be asked of a machine, from its order on. */
+    void machineDue(String when, Threadneedle house, int machine, String want) {
+        due("ofMachine " + machine + " " + when, inARow(3, what -> house.ofMachine(machine, what)), want);
+    }
+
+    private interface Asked {
+        long of(int number);
+    }
+
+    private static String inARow(int most, Asked asked) {
+        StringBuilder answers = new StringBuilder();
+        for (int what = 0; what <= most; what++) {
+            answers.append(what == 0 ? "" : " ").append(asked.of(what));
+        }
+        return answers.toString();
+    }
+
+    /**
+     * Of two houses that are made alike one refuses a call; then all that can be asked of both is alike, and what
+     * comes of both.
+     */
     void refused(String call, Maker maker, Class<?> exception, Call refused) {
         Threadneedle untouched = maker.make();
         Threadneedle asked = maker.make();
         due(call, answer(asked, refused), "throws " + exception.getName());
         due("what is asked after " + call, tell(asked), tell(untouched));
+        due("what comes after " + call, goOn(asked), goOn(untouched));
     }
 
     void outOfBounds(String call, Maker maker, Call refused) {
@@ -64,24 +100,18 @@ final class Checks {
     /** All that can be asked of a house; at last its draft is made a design, so it is of no use then. */
     static String tell(Threadneedle house) {
         List<String> told = new ArrayList<>();
-        for (int design = 0; isAnswer(house, design, Threadneedle::changes); design++) {
-            told.add("design " + design + ": " + house.stitches(design, Threadneedle.NONE) + " "
-                    + house.changes(design) + " " + house.jumps(design, true) + " " + house.jumps(design, false));
+        for (int number = 0; isAnswer(house, number, Threadneedle::changes); number++) {
+            told.add("design " + number + ": " + house.stitches(number, Threadneedle.NONE) + " "
+                    + house.changes(number) + " " + house.jumps(number, true) + " " + house.jumps(number, false));
         }
-        for (int machine = 0; isAnswer(house, machine, (h, m) -> h.ofMachine(m, 0)); machine++) {
-            told.add("machine " + machine);
-            for (int what = 0; what <= 3; what++) {
-                told.add("" + house.ofMachine(machine, what));
-            }
+        for (int number = 0; isAnswer(house, number, (h, m) -> h.ofMachine(m, 0)); number++) {
+            int machine = number;
+            told.add("machine " + machine + ": " + inARow(3, what -> house.ofMachine(machine, what)));
         }
-        for (int order = 0; isAnswer(house, order, (h, o) -> h.ofOrder(o, 0)); order++) {
-            told.add("order " + order);
-            for (int what = 0; what <= 6; what++) {
-                told.add("" + house.ofOrder(order, what));
-            }
-            for (int colour = 0; colour <= 5; colour++) {
-                told.add("" + house.shadeOf(order, colour));
-            }
+        for (int number = 0; isAnswer(house, number, (h, o) -> h.ofOrder(o, 0)); number++) {
+            int order = number;
+            told.add("order " + order + ": " + inARow(6, what -> house.ofOrder(order, what)) + ", shades "
+                    + inARow(5, colour -> house.shadeOf(order, colour)));
         }
         for (int spool = 0; spool < 18; spool++) {
             told.add("left " + house.left(spool / 3, spool % 3));
@@ -106,12 +136,39 @@ final class Checks {
         }
     }
 
-    private interface Asked {
+    private interface AskedOf {
         long of(Threadneedle house, int number);
     }
 
-    private static boolean isAnswer(Threadneedle house, int number, Asked asked) {
+    private static boolean isAnswer(Threadneedle house, int number, AskedOf asked) {
         return !answer(house, h -> asked.of(h, number)).startsWith("throws");
+    }
+
+    /**
+     * What comes of a house when all that it has goes on: that tells what can't be asked, as which stitches its
+     * heads sewed latest.
+     */
+    private static String goOn(Threadneedle house) {
+        List<String> told = new ArrayList<>();
+        for (int colour = 0; colour < 6; colour++) {
+            int bought = colour;
+            told.add(answer(house, h -> h.stock(bought, 0, 500)));
+        }
+        for (int number = 0; number < 4; number++) {
+            int machine = number;
+            told.add(answer(house, h -> h.run(machine, 4)));
+            told.add(answer(house, h -> h.snap(machine)));
+            told.add(answer(house, h -> h.run(machine, 1000)));
+        }
+        for (int number = 0; number < 4; number++) {
+            int order = number;
+            told.add(answer(house, Houses.start(order, 0)));
+            told.add(answer(house, h -> h.run(0, 1)));
+            told.add(answer(house, h -> h.ofMachine(0, 2)));
+            told.add(answer(house, h -> h.run(0, 1000)));
+            told.add(answer(house, h -> h.ofMachine(0, 1)));
+        }
+        return told.toString();
     }
 
     /** The cells of the stitches of a design, from one place on, as "x,y" each. */

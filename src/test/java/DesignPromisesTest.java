@@ -1,5 +1,5 @@
 /** Promises 1 to 4 and 13 to 18: shapes, designs, and what is asked of them. */
-final class DesignPromisesTest {
+final class DesignPromisesTest extends Houses {
     private static final int NONE = Threadneedle.NONE;
     private static final int BLOCK = Threadneedle.BLOCK;
     private static final int STAIR = Threadneedle.STAIR;
@@ -35,43 +35,6 @@ final class DesignPromisesTest {
         CHECKS.due("CANCELLED", Threadneedle.CANCELLED, 3);
     }
 
-    /** A house with one design of the shapes, each told by kind, colour, x, y, width, height. */
-    private static Threadneedle designOf(int[]... shapes) {
-        Threadneedle house = new Threadneedle();
-        for (int[] s : shapes) {
-            house.shape(s[0], s[1], s[2], s[3], s[4], s[5]);
-        }
-        house.design();
-        return house;
-    }
-
-    private static int[] block(int colour, int x, int y, int width, int height) {
-        return new int[] {BLOCK, colour, x, y, width, height};
-    }
-
-    private static int[] stair(int colour, int x, int y, int width, int height) {
-        return new int[] {STAIR, colour, x, y, width, height};
-    }
-
-    /** A block of one cell, apart from those of other numbers below 32. */
-    private static int[] dot(int colour, int number) {
-        return block(colour, number % 8 * 2, number / 8 * 2, 1, 1);
-    }
-
-    private static Threadneedle fullDraft() {
-        Threadneedle house = new Threadneedle();
-        for (int k = 0; k < 7; k++) {
-            house.shape(BLOCK, 0, 0, 0, 1, 1);
-        }
-        return house;
-    }
-
-    private static Threadneedle draftOfOne() {
-        Threadneedle house = new Threadneedle();
-        house.shape(STAIR, 2, 3, 3, 2, 2);
-        return house;
-    }
-
     private static void promise1NewObject() {
         Threadneedle house = new Threadneedle();
         CHECKS.due("wipe of a new house", house.wipe(), 0);
@@ -102,7 +65,7 @@ final class DesignPromisesTest {
         int[] wrongColours = {-1, 6, Integer.MIN_VALUE, Integer.MAX_VALUE};
         int[] wrongPlaces = {-1, 16, Integer.MIN_VALUE, Integer.MAX_VALUE};
         int[] wrongLengths = {-1, 0, 15, 16, 17, Integer.MIN_VALUE, Integer.MAX_VALUE};
-        Checks.Maker maker = DesignPromisesTest::draftOfOne;
+        Checks.Maker maker = Houses::draftOfOne;
         for (int kind : wrongKinds) {
             CHECKS.outOfBounds("kind " + kind, maker, h -> h.shape(kind, 0, 0, 0, 1, 1));
             CHECKS.outOfBounds("kind first " + kind, maker, h -> h.shape(kind, 0, 16, 0, 1, 1));
@@ -120,9 +83,9 @@ final class DesignPromisesTest {
             CHECKS.illegalArgument("height " + length, maker, h -> h.shape(STAIR, 0, 0, 2, 1, length));
         }
         CHECKS.illegalArgument("x and width wrap", maker, h -> h.shape(BLOCK, 0, -2147483648, 0, 2147483647, 1));
-        CHECKS.illegalState("shape 8", DesignPromisesTest::fullDraft, h -> h.shape(BLOCK, 0, 0, 0, 1, 1));
-        CHECKS.illegalArgument("x ahead of 8", DesignPromisesTest::fullDraft, h -> h.shape(BLOCK, 0, 9, 0, 8, 1));
-        CHECKS.outOfBounds("colour ahead of 8", DesignPromisesTest::fullDraft, h -> h.shape(BLOCK, 6, 0, 0, 1, 1));
+        CHECKS.illegalState("shape 8", Houses::fullDraft, h -> h.shape(BLOCK, 0, 0, 0, 1, 1));
+        CHECKS.illegalArgument("x ahead of 8", Houses::fullDraft, h -> h.shape(BLOCK, 0, 9, 0, 8, 1));
+        CHECKS.outOfBounds("colour ahead of 8", Houses::fullDraft, h -> h.shape(BLOCK, 6, 0, 0, 1, 1));
     }
 
     private static void promise3Wipe() {
@@ -154,23 +117,13 @@ final class DesignPromisesTest {
         for (int number = 0; number < 6; number++) {
             CHECKS.due("stitches of " + number, house.stitches(number, number), 2 * (number + 1));
         }
-        CHECKS.illegalState("design 6 of a draft", DesignPromisesTest::sixDesigns, Threadneedle::design);
+        CHECKS.illegalState("design 6 of a draft", Houses::sixDesigns, Threadneedle::design);
         CHECKS.illegalState("design 6 without", () -> {
             Threadneedle wiped = sixDesigns();
             wiped.wipe();
             return wiped;
         }, Threadneedle::design);
         CHECKS.illegalState("an empty draft", () -> designOf(dot(0, 0)), Threadneedle::design);
-    }
-
-    private static Threadneedle sixDesigns() {
-        Threadneedle house = new Threadneedle();
-        for (int number = 0; number < 6; number++) {
-            house.shape(BLOCK, 0, 0, 0, 1, 1);
-            house.design();
-        }
-        house.shape(BLOCK, 1, 1, 1, 1, 1);
-        return house;
     }
 
     private static void promise13Stitches() {

@@ -1,5 +1,5 @@
 /** Promises 5 to 12 and 19 to 22: machines, thread, orders, and what is asked of them. */
-final class HousePromisesTest {
+final class HousePromisesTest extends Houses {
     private static final int NONE = Threadneedle.NONE;
     private static final int BLOCK = Threadneedle.BLOCK;
     private static final int STAIR = Threadneedle.STAIR;
@@ -36,77 +36,14 @@ final class HousePromisesTest {
         CHECKS.end();
     }
 
-    // ---- houses to begin with
-
-    /** Design 0: 6 stitches of colour 0 in row 0, then 4 of colour 1 in row 4; 3 wide, 5 high. */
-    private static Threadneedle withDesign() {
-        Threadneedle house = new Threadneedle();
-        house.shape(BLOCK, 0, 0, 0, 3, 1);
-        house.shape(BLOCK, 1, 0, 4, 2, 1);
-        house.design();
-        return house;
-    }
-
-    /** Machine 0 has 2 heads, order 0 is of 3 pieces, so it needs 18 and 12 stitches. */
-    private static Threadneedle waiting() {
-        Threadneedle house = withDesign();
-        house.machine(2, 16, 16);
-        house.order(0, 3);
-        return house;
-    }
-
-    private static Threadneedle started() {
-        Threadneedle house = waiting();
-        house.stock(0, 0, 100);
-        house.stock(1, 0, 100);
-        house.start(0, 0);
-        return house;
-    }
-
-    private static Threadneedle sewnBy(int stitches) {
-        Threadneedle house = started();
-        if (stitches > 0) {
-            house.run(0, stitches);
-        }
-        return house;
-    }
-
-    private static Threadneedle done() {
-        return sewnBy(30);
-    }
-
-    private static Threadneedle cancelled() {
-        Threadneedle house = sewnBy(7);
-        house.cancel(0);
-        return house;
-    }
-
-    private static void orderDue(String when, Threadneedle house, int order, String want) {
-        StringBuilder got = new StringBuilder();
-        for (int what = 0; what <= 6; what++) {
-            got.append(what == 0 ? "" : " ").append(house.ofOrder(order, what));
-        }
-        CHECKS.due("ofOrder " + order + " " + when, got.toString(), want);
-    }
-
-    private static void machineDue(String when, Threadneedle house, int machine, String want) {
-        StringBuilder got = new StringBuilder();
-        for (int what = 0; what <= 3; what++) {
-            got.append(what == 0 ? "" : " ").append(house.ofMachine(machine, what));
-        }
-        CHECKS.due("ofMachine " + machine + " " + when, got.toString(), want);
-    }
-
-    // ---- promises
-
     private static void promise5Machine() {
         Threadneedle house = new Threadneedle();
         CHECKS.due("machine 0", house.machine(1, 1, 1), 0);
         CHECKS.due("machine 1", house.machine(6, 16, 16), 1);
         CHECKS.due("machine 2", house.machine(3, 1, 16), 2);
         CHECKS.due("machine 3", house.machine(2, 16, 1), 3);
-        machineDue("new", house, 3, "-1 0 0 0");
-        CHECKS.illegalState("machine 4", HousePromisesTest::fourMachines, h -> h.machine(1, 1, 1));
+        CHECKS.machineDue("new", house, 3, "-1 0 0 0");
+        CHECKS.illegalState("machine 4", Houses::fourMachines, h -> h.machine(1, 1, 1));
         int[] wrong = {0, -1, 17, Integer.MIN_VALUE, Integer.MAX_VALUE};
         for (int number : wrong) {
             CHECKS.illegalArgument("heads " + number, Threadneedle::new, h -> h.machine(number, 1, 1));
@@ -114,15 +51,7 @@ final class HousePromisesTest {
             CHECKS.illegalArgument("height " + number, Threadneedle::new, h -> h.machine(1, 1, number));
         }
         CHECKS.illegalArgument("heads 7", Threadneedle::new, h -> h.machine(7, 16, 16));
-        CHECKS.illegalArgument("heads ahead of 4", HousePromisesTest::fourMachines, h -> h.machine(7, 1, 1));
-    }
-
-    private static Threadneedle fourMachines() {
-        Threadneedle house = new Threadneedle();
-        for (int k = 0; k < 4; k++) {
-            house.machine(1, 1, 1);
-        }
-        return house;
+        CHECKS.illegalArgument("heads ahead of 4", Houses::fourMachines, h -> h.machine(7, 1, 1));
     }
 
     private static void promise6And22Thread() {
@@ -145,22 +74,13 @@ final class HousePromisesTest {
         CHECKS.due("left of more", house.left(5, 2), 100018);
     }
 
-    private static Threadneedle nearlyFullSpool() {
-        Threadneedle house = new Threadneedle();
-        for (int k = 0; k < 9; k++) {
-            house.stock(3, 1, 100000);
-        }
-        house.stock(3, 1, 99999);
-        return house;
-    }
-
     private static void promise6And22Throw() {
         Threadneedle house = nearlyFullSpool();
         CHECKS.due("stock to the most", house.stock(3, 1, 1), 1000000);
         CHECKS.due("stock of another shade", house.stock(3, 2, 100000), 100000);
-        CHECKS.illegalState("too much thread", HousePromisesTest::nearlyFullSpool, h -> h.stock(3, 1, 2));
+        CHECKS.illegalState("too much thread", Houses::nearlyFullSpool, h -> h.stock(3, 1, 2));
         for (int stitches : NOT_1_TO_100000) {
-            CHECKS.illegalArgument("stock " + stitches, HousePromisesTest::nearlyFullSpool,
+            CHECKS.illegalArgument("stock " + stitches, Houses::nearlyFullSpool,
                     h -> h.stock(3, 1, stitches));
             CHECKS.outOfBounds("colour ahead of " + stitches, Threadneedle::new, h -> h.stock(6, 0, stitches));
         }
@@ -178,43 +98,19 @@ final class HousePromisesTest {
         Threadneedle house = withDesign();
         for (int number = 0; number < 20; number++) {
             CHECKS.due("order " + number, house.order(0, number == 0 ? 50 : number), number);
-            orderDue("new", house, number, "0 0 " + (number == 0 ? 50 : number) + " 0 0 0 -1");
+            CHECKS.orderDue("new", house, number, "0 0 " + (number == 0 ? 50 : number) + " 0 0 0 -1");
         }
-        CHECKS.illegalState("order 20", HousePromisesTest::twentyOrders, h -> h.order(0, 1));
-        CHECKS.illegalArgument("pieces ahead of 20", HousePromisesTest::twentyOrders, h -> h.order(0, 51));
-        CHECKS.outOfBounds("design ahead of 20", HousePromisesTest::twentyOrders, h -> h.order(1, 51));
+        CHECKS.illegalState("order 20", Houses::twentyOrders, h -> h.order(0, 1));
+        CHECKS.illegalArgument("pieces ahead of 20", Houses::twentyOrders, h -> h.order(0, 51));
+        CHECKS.outOfBounds("design ahead of 20", Houses::twentyOrders, h -> h.order(1, 51));
         int[] wrongPieces = {0, -1, 51, Integer.MIN_VALUE, Integer.MAX_VALUE};
         for (int pieces : wrongPieces) {
-            CHECKS.illegalArgument("pieces " + pieces, HousePromisesTest::withDesign, h -> h.order(0, pieces));
+            CHECKS.illegalArgument("pieces " + pieces, Houses::withDesign, h -> h.order(0, pieces));
         }
         for (int design : NOT_0) {
-            CHECKS.outOfBounds("order of " + design, HousePromisesTest::withDesign, h -> h.order(design, 1));
-            CHECKS.outOfBounds("order first of " + design, HousePromisesTest::withDesign, h -> h.order(design, 0));
+            CHECKS.outOfBounds("order of " + design, Houses::withDesign, h -> h.order(design, 1));
+            CHECKS.outOfBounds("order first of " + design, Houses::withDesign, h -> h.order(design, 0));
         }
-    }
-
-    /** One of them cancelled: that makes no room for another one. */
-    private static Threadneedle twentyOrders() {
-        Threadneedle house = withDesign();
-        for (int k = 0; k < 20; k++) {
-            house.order(0, 1);
-        }
-        house.cancel(7);
-        return house;
-    }
-
-    private static String start(Threadneedle house, int order, int machine) {
-        return Checks.answer(house, h -> {
-            h.start(order, machine);
-            return 0;
-        });
-    }
-
-    private static Checks.Call start(int order, int machine) {
-        return h -> {
-            h.start(order, machine);
-            return 0;
-        };
     }
 
     private static void promise8Start() {
@@ -223,14 +119,14 @@ final class HousePromisesTest {
         house.order(0, 1);
         house.stock(0, 0, 18);
         house.stock(1, 0, 12);
-        CHECKS.due("start", start(house, 0, 1), "0");
-        orderDue("started", house, 0, "1 0 3 0 0 0 1");
-        machineDue("started", house, 1, "0 0 0 0");
-        machineDue("free", house, 0, "-1 0 0 0");
+        CHECKS.due("start", Checks.answer(house, start(0, 1)), "0");
+        CHECKS.orderDue("started", house, 0, "1 0 3 0 0 0 1");
+        CHECKS.machineDue("started", house, 1, "0 0 0 0");
+        CHECKS.machineDue("free", house, 0, "-1 0 0 0");
         CHECKS.due("thread stays in stock", house.left(0, 0), 18);
         // What is in stock is not kept for the first order.
-        CHECKS.due("start of the other", start(house, 1, 0), "0");
-        machineDue("other", house, 0, "1 0 0 0");
+        CHECKS.due("start of the other", Checks.answer(house, start(1, 0)), "0");
+        CHECKS.machineDue("other", house, 0, "1 0 0 0");
     }
 
     private static void promise8Hoops() {
@@ -243,10 +139,10 @@ final class HousePromisesTest {
         house.machine(1, 6, 16);
         house.machine(1, 16, 4);
         house.machine(1, 7, 5);
-        CHECKS.due("narrow hoop", start(house, 0, 0), "throws java.lang.IllegalStateException");
-        CHECKS.due("low hoop", start(house, 0, 1), "throws java.lang.IllegalStateException");
+        CHECKS.due("narrow hoop", Checks.answer(house, start(0, 0)), "throws java.lang.IllegalStateException");
+        CHECKS.due("low hoop", Checks.answer(house, start(0, 1)), "throws java.lang.IllegalStateException");
         // The stair's box is 9 wide, but its cells are 3 wide at most.
-        CHECKS.due("hoop of the cells' size", start(house, 0, 2), "0");
+        CHECKS.due("hoop of the cells' size", Checks.answer(house, start(0, 2)), "0");
         Threadneedle all = new Threadneedle();
         all.shape(BLOCK, 0, 15, 15, 1, 1);
         all.design();
@@ -255,9 +151,9 @@ final class HousePromisesTest {
         all.machine(1, 15, 16);
         all.machine(1, 16, 15);
         all.machine(1, 16, 16);
-        CHECKS.due("hoop of 15", start(all, 0, 0), "throws java.lang.IllegalStateException");
-        CHECKS.due("hoop of 15 high", start(all, 0, 1), "throws java.lang.IllegalStateException");
-        CHECKS.due("hoop of 16", start(all, 0, 2), "0");
+        CHECKS.due("hoop of 15", Checks.answer(all, start(0, 0)), "throws java.lang.IllegalStateException");
+        CHECKS.due("hoop of 15 high", Checks.answer(all, start(0, 1)), "throws java.lang.IllegalStateException");
+        CHECKS.due("hoop of 16", Checks.answer(all, start(0, 2)), "0");
     }
 
     private static void promise8Shades() {
@@ -287,43 +183,43 @@ final class HousePromisesTest {
             house.machine(1, 16, 16);
             return house;
         }, start(0, 1));
-        CHECKS.illegalState("start of what is done", HousePromisesTest::done, start(0, 0));
-        CHECKS.illegalState("start of what is cancelled", HousePromisesTest::cancelled, start(0, 0));
+        CHECKS.illegalState("start of what is done", Houses::done, start(0, 0));
+        CHECKS.illegalState("start of what is cancelled", Houses::cancelled, start(0, 0));
         CHECKS.illegalState("start on a machine that has one", () -> {
             Threadneedle house = started();
             house.order(0, 1);
             return house;
         }, start(1, 0));
         for (int number : NOT_0) {
-            CHECKS.outOfBounds("start of " + number, HousePromisesTest::waiting, start(number, 0));
-            CHECKS.outOfBounds("start on " + number, HousePromisesTest::waiting, start(0, number));
-            CHECKS.outOfBounds("start of what is done on " + number, HousePromisesTest::done, start(0, number));
+            CHECKS.outOfBounds("start of " + number, Houses::waiting, start(number, 0));
+            CHECKS.outOfBounds("start on " + number, Houses::waiting, start(0, number));
+            CHECKS.outOfBounds("start of what is done on " + number, Houses::done, start(0, number));
         }
     }
 
     private static void promise9Run() {
         Threadneedle house = started();
         CHECKS.due("run 1", house.run(0, 1), 1);
-        orderDue("after 1", house, 0, "1 0 3 0 1 0 0");
-        machineDue("after 1", house, 0, "0 1 1 1");
+        CHECKS.orderDue("after 1", house, 0, "1 0 3 0 1 0 0");
+        CHECKS.machineDue("after 1", house, 0, "0 1 1 1");
         CHECKS.due("run 8", house.run(0, 8), 8);
-        orderDue("after 9", house, 0, "1 0 3 0 9 0 0");
-        machineDue("after 9", house, 0, "0 2 3 9");
+        CHECKS.orderDue("after 9", house, 0, "1 0 3 0 9 0 0");
+        CHECKS.machineDue("after 9", house, 0, "0 2 3 9");
         CHECKS.due("run to the piece's end", house.run(0, 1), 1);
-        orderDue("after 10", house, 0, "1 0 3 1 0 0 0");
+        CHECKS.orderDue("after 10", house, 0, "1 0 3 1 0 0 0");
         CHECKS.due("run into the last piece", house.run(0, 12), 12);
-        orderDue("after 22", house, 0, "1 0 3 2 2 0 0");
+        CHECKS.orderDue("after 22", house, 0, "1 0 3 2 2 0 0");
         CHECKS.due("left of colour 0", house.left(0, 0), 100 - 14);
         CHECKS.due("left of colour 1", house.left(1, 0), 100 - 8);
         CHECKS.due("run to the end", house.run(0, 100000), 8);
-        orderDue("done", house, 0, "2 0 3 3 0 0 -1");
-        machineDue("done", house, 0, "-1 2 3 30");
+        CHECKS.orderDue("done", house, 0, "2 0 3 3 0 0 -1");
+        CHECKS.machineDue("done", house, 0, "-1 2 3 30");
         CHECKS.due("left of colour 0 at last", house.left(0, 0), 82);
         CHECKS.due("left of colour 1 at last", house.left(1, 0), 88);
         house.order(0, 2);
         house.start(1, 0);
         CHECKS.due("run of the next order", house.run(0, 20), 20);
-        machineDue("next done", house, 0, "-1 2 3 50");
+        CHECKS.machineDue("next done", house, 0, "-1 2 3 50");
     }
 
     private static void promise9RunsOutOfThread() {
@@ -338,37 +234,20 @@ final class HousePromisesTest {
         // Colour 0 has 6 left, colour 1 has 7.
         CHECKS.due("thread in use", house.left(0, 0) * 100 + house.left(1, 0), 607);
         CHECKS.due("run of the second", house.run(1, 100), 10);
-        orderDue("out of thread", house, 1, "1 0 3 1 0 0 1");
-        machineDue("out of thread", house, 1, "1 2 2 10");
+        CHECKS.orderDue("out of thread", house, 1, "1 0 3 1 0 0 1");
+        CHECKS.machineDue("out of thread", house, 1, "1 2 2 10");
         CHECKS.due("run without thread", house.run(1, 100), 0);
         CHECKS.due("run of the first on", house.run(0, 100), 3);
         CHECKS.due("none is left for the first", house.run(0, 1), 0);
-        machineDue("its heads hold what they held", house, 1, "1 2 2 10");
+        CHECKS.machineDue("its heads hold what they held", house, 1, "1 2 2 10");
         house.stock(0, 0, 1);
         CHECKS.due("run on", house.run(1, 100), 1);
-        machineDue("loaded again", house, 1, "1 3 1 11");
+        CHECKS.machineDue("loaded again", house, 1, "1 3 1 11");
         house.stock(0, 0, 5);
         CHECKS.due("run to colour 1", house.run(1, 100), 5);
         CHECKS.due("no stitch of colour 1", house.run(1, 100), 0);
-        machineDue("loading nothing", house, 1, "1 3 1 16");
-        orderDue("ahead of colour 1", house, 1, "1 0 3 1 6 0 1");
-    }
-
-    /** A design of one cell, with a stitch and its edge of each colour in turn. */
-    private static int layers(Threadneedle house, int... colours) {
-        for (int colour : colours) {
-            house.shape(BLOCK, colour, 0, 0, 1, 1);
-        }
-        return house.design();
-    }
-
-    private static Threadneedle allThread(int heads) {
-        Threadneedle house = new Threadneedle();
-        house.machine(heads, 16, 16);
-        for (int colour = 0; colour < 6; colour++) {
-            house.stock(colour, 0, 10000);
-        }
-        return house;
+        CHECKS.machineDue("loading nothing", house, 1, "1 3 1 16");
+        CHECKS.orderDue("ahead of colour 1", house, 1, "1 0 3 1 6 0 1");
     }
 
     private static void headsDue(int heads, String want, int pieces, int... colours) {
@@ -376,7 +255,7 @@ final class HousePromisesTest {
         house.order(layers(house, colours), pieces);
         house.start(0, 0);
         house.run(0, 100000);
-        machineDue("of " + heads + " heads", house, 0, want);
+        CHECKS.machineDue("of " + heads + " heads", house, 0, want);
     }
 
     private static void promise9Heads() {
@@ -400,7 +279,7 @@ final class HousePromisesTest {
         house.run(0, 6);
         house.start(1, 0);
         house.run(0, 2);
-        machineDue("colour 1 gave way", house, 0, "-1 3 5 8");
+        CHECKS.machineDue("colour 1 gave way", house, 0, "-1 3 5 8");
         // What snapped was sewn all the same.
         Threadneedle snapped = allThread(2);
         snapped.order(layers(snapped, 0, 1, 0), 1);
@@ -411,47 +290,47 @@ final class HousePromisesTest {
         snapped.cancel(0);
         snapped.start(1, 0);
         snapped.run(0, 2);
-        machineDue("colour 1 gave way after all", snapped, 0, "-1 3 5 7");
+        CHECKS.machineDue("colour 1 gave way after all", snapped, 0, "-1 3 5 7");
         // Heads hold colours: another shade is not loaded.
         Threadneedle matched = sewnBy(3);
         matched.stock(0, 1, 18);
         matched.match(0, 0, 1);
         matched.run(0, 3);
-        machineDue("with another shade", matched, 0, "0 1 1 6");
+        CHECKS.machineDue("with another shade", matched, 0, "0 1 1 6");
         CHECKS.due("left of the first shade", matched.left(0, 0), 97);
         CHECKS.due("left of the other shade", matched.left(0, 1), 15);
     }
 
     private static void promise9Throws() {
         for (int stitches : NOT_1_TO_100000) {
-            CHECKS.illegalArgument("run " + stitches, HousePromisesTest::started, h -> h.run(0, stitches));
-            CHECKS.illegalArgument("run first " + stitches, HousePromisesTest::waiting, h -> h.run(0, stitches));
-            CHECKS.outOfBounds("machine ahead of " + stitches, HousePromisesTest::started, h -> h.run(1, stitches));
+            CHECKS.illegalArgument("run " + stitches, Houses::started, h -> h.run(0, stitches));
+            CHECKS.illegalArgument("run first " + stitches, Houses::waiting, h -> h.run(0, stitches));
+            CHECKS.outOfBounds("machine ahead of " + stitches, Houses::started, h -> h.run(1, stitches));
         }
         for (int machine : NOT_0) {
-            CHECKS.outOfBounds("run of " + machine, HousePromisesTest::started, h -> h.run(machine, 1));
+            CHECKS.outOfBounds("run of " + machine, Houses::started, h -> h.run(machine, 1));
         }
-        CHECKS.illegalState("run without an order", HousePromisesTest::waiting, h -> h.run(0, 1));
-        CHECKS.illegalState("run after the end", HousePromisesTest::done, h -> h.run(0, 1));
-        CHECKS.illegalState("run of what is cancelled", HousePromisesTest::cancelled, h -> h.run(0, 1));
+        CHECKS.illegalState("run without an order", Houses::waiting, h -> h.run(0, 1));
+        CHECKS.illegalState("run after the end", Houses::done, h -> h.run(0, 1));
+        CHECKS.illegalState("run of what is cancelled", Houses::cancelled, h -> h.run(0, 1));
     }
 
     private static void promise10Snap() {
         Threadneedle house = sewnBy(16);
         CHECKS.due("snap by 5", house.snap(0), 5);
-        orderDue("snapped by 5", house, 0, "1 0 3 1 1 5 0");
+        CHECKS.orderDue("snapped by 5", house, 0, "1 0 3 1 1 5 0");
         CHECKS.due("snap to the piece's beginning", house.snap(0), 1);
-        orderDue("snapped to the beginning", house, 0, "1 0 3 1 0 6 0");
+        CHECKS.orderDue("snapped to the beginning", house, 0, "1 0 3 1 0 6 0");
         CHECKS.due("thread is gone", house.left(0, 0), 100 - 12);
-        machineDue("snapped", house, 0, "0 2 3 16");
+        CHECKS.machineDue("snapped", house, 0, "0 2 3 16");
         CHECKS.due("sewn again", house.run(0, 9), 9);
         CHECKS.due("snap to the shape's beginning", house.snap(0), 3);
-        orderDue("snapped to the shape's beginning", house, 0, "1 0 3 1 6 9 0");
+        CHECKS.orderDue("snapped to the shape's beginning", house, 0, "1 0 3 1 6 9 0");
         CHECKS.due("snap into the shape ahead", house.snap(0), 5);
-        orderDue("snapped into the shape ahead", house, 0, "1 0 3 1 1 14 0");
+        CHECKS.orderDue("snapped into the shape ahead", house, 0, "1 0 3 1 1 14 0");
         CHECKS.due("run to the end", house.run(0, 100), 19);
-        orderDue("with waste", house, 0, "2 0 3 3 0 14 -1");
-        machineDue("with waste", house, 0, "-1 2 3 44");
+        CHECKS.orderDue("with waste", house, 0, "2 0 3 3 0 14 -1");
+        CHECKS.machineDue("with waste", house, 0, "-1 2 3 44");
         CHECKS.due("snap after 6", sewnBy(6).snap(0), 5);
         CHECKS.due("snap after 7", sewnBy(7).snap(0), 1);
         // Two shapes of the same colour are two all the same.
@@ -465,12 +344,12 @@ final class HousePromisesTest {
 
     private static void promise10Throws() {
         for (int machine : NOT_0) {
-            CHECKS.outOfBounds("snap of " + machine, HousePromisesTest::started, h -> h.snap(machine));
+            CHECKS.outOfBounds("snap of " + machine, Houses::started, h -> h.snap(machine));
         }
-        CHECKS.illegalState("snap without an order", HousePromisesTest::waiting, h -> h.snap(0));
-        CHECKS.illegalState("snap ahead of the first stitch", HousePromisesTest::started, h -> h.snap(0));
+        CHECKS.illegalState("snap without an order", Houses::waiting, h -> h.snap(0));
+        CHECKS.illegalState("snap ahead of the first stitch", Houses::started, h -> h.snap(0));
         CHECKS.illegalState("snap ahead of the next piece", () -> sewnBy(10), h -> h.snap(0));
-        CHECKS.illegalState("snap after the end", HousePromisesTest::done, h -> h.snap(0));
+        CHECKS.illegalState("snap after the end", Houses::done, h -> h.snap(0));
         CHECKS.illegalState("snap of what snapped", () -> {
             Threadneedle house = sewnBy(13);
             house.snap(0);
@@ -478,20 +357,12 @@ final class HousePromisesTest {
         }, h -> h.snap(0));
     }
 
-    private static Threadneedle withOtherShades(int stitches) {
-        Threadneedle house = sewnBy(stitches);
-        house.stock(0, 2, 18);
-        house.stock(0, 1, 17);
-        house.stock(1, 1, 12);
-        return house;
-    }
-
     private static void matchDue(int stitches, int colour, int shade, int pieces, String order) {
         Threadneedle house = withOtherShades(stitches);
         CHECKS.due("match after " + stitches, house.match(0, colour, shade), pieces);
         CHECKS.due("shade after " + stitches, house.shadeOf(0, colour), shade);
-        orderDue("matched after " + stitches, house, 0, order);
-        machineDue("matched after " + stitches, house, 0,
+        CHECKS.orderDue("matched after " + stitches, house, 0, order);
+        CHECKS.machineDue("matched after " + stitches, house, 0,
                 "0 " + (stitches > 6 ? "2 3 " : stitches > 0 ? "1 1 " : "0 0 ") + stitches);
     }
 
@@ -513,15 +384,15 @@ final class HousePromisesTest {
         Threadneedle house = withOtherShades(7);
         house.snap(0);
         CHECKS.due("match of what snapped", house.match(0, 1, 1), 0);
-        orderDue("match of what snapped", house, 0, "1 0 3 0 6 1 0");
+        CHECKS.orderDue("match of what snapped", house, 0, "1 0 3 0 6 1 0");
         CHECKS.due("match of what is begun", house.match(0, 0, 2), 1);
-        orderDue("begun anew", house, 0, "1 0 3 0 0 7 0");
+        CHECKS.orderDue("begun anew", house, 0, "1 0 3 0 0 7 0");
         // All is gone by the earlier match.
         CHECKS.due("match back", house.match(0, 0, 0), 0);
         CHECKS.due("match of the other back", house.match(0, 1, 0), 0);
-        orderDue("matched back", house, 0, "1 0 3 0 0 7 0");
+        CHECKS.orderDue("matched back", house, 0, "1 0 3 0 0 7 0");
         CHECKS.due("run to the end", house.run(0, 100), 30);
-        orderDue("done at last", house, 0, "2 0 3 3 0 7 -1");
+        CHECKS.orderDue("done at last", house, 0, "2 0 3 3 0 7 -1");
         CHECKS.due("left of colour 0", house.left(0, 0), 100 - 6 - 18);
         CHECKS.due("left of shade 2", house.left(0, 2), 18);
         CHECKS.due("left of colour 1", house.left(1, 0), 100 - 1 - 12);
@@ -543,11 +414,11 @@ final class HousePromisesTest {
         }
         for (int colour : NO_COLOUR) {
             CHECKS.outOfBounds("match of colour " + colour, maker, h -> h.match(0, colour, 2));
-            CHECKS.outOfBounds("done, colour " + colour, HousePromisesTest::done, h -> h.match(0, colour, 2));
+            CHECKS.outOfBounds("done, colour " + colour, Houses::done, h -> h.match(0, colour, 2));
         }
         for (int shade : NO_SHADE) {
             CHECKS.outOfBounds("match of shade " + shade, maker, h -> h.match(0, 0, shade));
-            CHECKS.outOfBounds("waiting, shade " + shade, HousePromisesTest::waiting, h -> h.match(0, 0, shade));
+            CHECKS.outOfBounds("waiting, shade " + shade, Houses::waiting, h -> h.match(0, 0, shade));
         }
         CHECKS.illegalState("match of the same shade", maker, h -> h.match(0, 0, 0));
         CHECKS.illegalState("match of a shade with too little", maker, h -> h.match(0, 0, 1));
@@ -570,16 +441,16 @@ final class HousePromisesTest {
         Threadneedle house = sewnBy(23);
         house.snap(0);
         CHECKS.due("cancel", house.cancel(0), 20);
-        orderDue("cancelled", house, 0, "3 0 3 0 0 23 -1");
-        machineDue("cancelled", house, 0, "-1 2 3 23");
+        CHECKS.orderDue("cancelled", house, 0, "3 0 3 0 0 23 -1");
+        CHECKS.machineDue("cancelled", house, 0, "-1 2 3 23");
         CHECKS.due("shade of what is cancelled", house.shadeOf(0, 1), 0);
         CHECKS.due("thread is gone", house.left(0, 0), 100 - 15);
         house.order(0, 1);
-        CHECKS.due("start on the free machine", start(house, 1, 0), "0");
+        CHECKS.due("start on the free machine", Checks.answer(house, start(1, 0)), "0");
         CHECKS.due("run on the free machine", house.run(0, 100), 10);
         Threadneedle waits = waiting();
         CHECKS.due("cancel of what waits", waits.cancel(0), 0);
-        orderDue("cancelled ahead", waits, 0, "3 0 3 0 0 0 -1");
+        CHECKS.orderDue("cancelled ahead", waits, 0, "3 0 3 0 0 0 -1");
         CHECKS.due("shade of what waited", waits.shadeOf(0, 0), NONE);
         CHECKS.due("cancel ahead of the first stitch", started().cancel(0), 0);
         CHECKS.due("cancel ahead of the last stitch", sewnBy(29).cancel(0), 29);
@@ -587,10 +458,10 @@ final class HousePromisesTest {
 
     private static void promise12Throws() {
         for (int order : NOT_0) {
-            CHECKS.outOfBounds("cancel of " + order, HousePromisesTest::started, h -> h.cancel(order));
+            CHECKS.outOfBounds("cancel of " + order, Houses::started, h -> h.cancel(order));
         }
-        CHECKS.illegalState("cancel of what is done", HousePromisesTest::done, h -> h.cancel(0));
-        CHECKS.illegalState("cancel again", HousePromisesTest::cancelled, h -> h.cancel(0));
+        CHECKS.illegalState("cancel of what is done", Houses::done, h -> h.cancel(0));
+        CHECKS.illegalState("cancel again", Houses::cancelled, h -> h.cancel(0));
     }
 
     private static void promise19OfOrder() {
@@ -598,20 +469,20 @@ final class HousePromisesTest {
         layers(house, 4, 5);
         house.machine(1, 1, 1);
         house.order(1, 7);
-        orderDue("that waits", house, 1, "0 1 7 0 0 0 -1");
+        CHECKS.orderDue("that waits", house, 1, "0 1 7 0 0 0 -1");
         house.stock(4, 2, 14);
         house.stock(5, 1, 14);
         house.start(1, 1);
         house.run(1, 7);
         house.snap(1);
-        orderDue("that is sewn", house, 1, "1 1 7 1 2 1 1");
+        CHECKS.orderDue("that is sewn", house, 1, "1 1 7 1 2 1 1");
         int[] wrongWhats = {-1, 7, Integer.MIN_VALUE, Integer.MAX_VALUE};
         for (int what : wrongWhats) {
-            CHECKS.illegalArgument("ofOrder what " + what, HousePromisesTest::started, h -> h.ofOrder(0, what));
-            CHECKS.outOfBounds("order ahead of " + what, HousePromisesTest::started, h -> h.ofOrder(1, what));
+            CHECKS.illegalArgument("ofOrder what " + what, Houses::started, h -> h.ofOrder(0, what));
+            CHECKS.outOfBounds("order ahead of " + what, Houses::started, h -> h.ofOrder(1, what));
         }
         for (int order : NOT_0) {
-            CHECKS.outOfBounds("ofOrder " + order, HousePromisesTest::started, h -> h.ofOrder(order, 0));
+            CHECKS.outOfBounds("ofOrder " + order, Houses::started, h -> h.ofOrder(order, 0));
         }
     }
 
@@ -630,10 +501,10 @@ final class HousePromisesTest {
         CHECKS.due("shade 2 of what is done", house.shadeOf(0, 0), 2);
         CHECKS.due("shade 0 of what is done", house.shadeOf(0, 1), 0);
         for (int colour : NO_COLOUR) {
-            CHECKS.outOfBounds("shadeOf " + colour, HousePromisesTest::started, h -> h.shadeOf(0, colour));
+            CHECKS.outOfBounds("shadeOf " + colour, Houses::started, h -> h.shadeOf(0, colour));
         }
         for (int order : NOT_0) {
-            CHECKS.outOfBounds("shadeOf order " + order, HousePromisesTest::started, h -> h.shadeOf(order, 0));
+            CHECKS.outOfBounds("shadeOf order " + order, Houses::started, h -> h.shadeOf(order, 0));
         }
     }
 
@@ -643,20 +514,20 @@ final class HousePromisesTest {
         house.order(layers(house, 5, 2), 2);
         house.order(0, 1);
         house.start(1, 0);
-        machineDue("started", house, 0, "1 0 0 0");
+        CHECKS.machineDue("started", house, 0, "1 0 0 0");
         house.run(0, 3);
-        machineDue("running", house, 0, "1 2 36 3");
-        machineDue("apart from it", house, 1, "-1 0 0 0");
+        CHECKS.machineDue("running", house, 0, "1 2 36 3");
+        CHECKS.machineDue("apart from it", house, 1, "-1 0 0 0");
         house.start(0, 1);
         house.run(1, 100);
-        machineDue("done", house, 1, "-1 4 4 8");
+        CHECKS.machineDue("done", house, 1, "-1 4 4 8");
         int[] wrongWhats = {-1, 4, Integer.MIN_VALUE, Integer.MAX_VALUE};
         for (int what : wrongWhats) {
-            CHECKS.illegalArgument("ofMachine what " + what, HousePromisesTest::started, h -> h.ofMachine(0, what));
-            CHECKS.outOfBounds("machine ahead of " + what, HousePromisesTest::started, h -> h.ofMachine(1, what));
+            CHECKS.illegalArgument("ofMachine what " + what, Houses::started, h -> h.ofMachine(0, what));
+            CHECKS.outOfBounds("machine ahead of " + what, Houses::started, h -> h.ofMachine(1, what));
         }
         for (int machine : NOT_0) {
-            CHECKS.outOfBounds("ofMachine " + machine, HousePromisesTest::started, h -> h.ofMachine(machine, 0));
+            CHECKS.outOfBounds("ofMachine " + machine, Houses::started, h -> h.ofMachine(machine, 0));
         }
     }
 }
