@@ -244,7 +244,8 @@ public final class Threadneedle {
         if (place < 0) {
             throw new IndexOutOfBoundsException("place is below 0");
         }
-        return place < asked.sequence.length ? asked.sequence[place].number : NONE;
+        Shape shape = shapeAt(asked.sequence, place);
+        return shape == null ? NONE : shape.number;
     }
 
     public int changes(int design) throws IndexOutOfBoundsException {
@@ -327,22 +328,27 @@ public final class Threadneedle {
         return cell / SIDE;
     }
 
+    /** The shape at a place of a row of shapes; null, if there is none. */
+    private static Shape shapeAt(Shape[] shapes, int place) {
+        return place >= 0 && place < shapes.length ? shapes[place] : null;
+    }
+
     private Design designAt(int number) {
-        if (number < 0 || number >= designCount || number >= designs.length) {
+        if (number < 0 || number >= designs.length || designs[number] == null) {
             throw new IndexOutOfBoundsException("no such design");
         }
         return designs[number];
     }
 
     private Machine machineAt(int number) {
-        if (number < 0 || number >= machineCount || number >= machines.length) {
+        if (number < 0 || number >= machines.length || machines[number] == null) {
             throw new IndexOutOfBoundsException("no such machine");
         }
         return machines[number];
     }
 
     private Order orderAt(int number) {
-        if (number < 0 || number >= orderCount || number >= orders.length) {
+        if (number < 0 || number >= orders.length || orders[number] == null) {
             throw new IndexOutOfBoundsException("no such order");
         }
         return orders[number];
@@ -434,12 +440,16 @@ public final class Threadneedle {
         }
 
         boolean meets(Shape other) {
-            for (int y = 0; y < rows.length && y < other.rows.length; y++) {
+            for (int y = 0; other != null && y < rows.length && y < other.rows.length; y++) {
                 if ((rows[y] & other.rows[y]) != 0) {
                     return true;
                 }
             }
             return false;
+        }
+
+        boolean isUnlike(Shape other) {
+            return other != null && colour != other.colour;
         }
 
         int stitchCount() {
@@ -487,15 +497,18 @@ public final class Threadneedle {
         private final Shape[] shapes;
         /** The shapes that are sewn ahead of each one. */
         private final int[] ahead;
+        /** The shapes of unlike colours, for each one. */
+        private final int[] unlike;
 
         Sequencer(Shape[] shapes) {
             this.shapes = shapes;
             ahead = new int[shapes.length];
-            for (int later = 0; later < shapes.length; later++) {
-                for (int number = 0; number < later; number++) {
-                    if (shapes[number].meets(shapes[later])) {
-                        ahead[later] |= 1 << number;
-                    }
+            unlike = new int[shapes.length];
+            for (int number = 0; number < shapes.length; number++) {
+                Shape shape = shapes[number];
+                for (int other = 0; shape != null && other < shapes.length; other++) {
+                    ahead[number] |= other < number && shape.meets(shapes[other]) ? 1 << other : 0;
+                    unlike[number] |= shape.isUnlike(shapes[other]) ? 1 << other : 0;
                 }
             }
         }
@@ -578,10 +591,7 @@ public final class Threadneedle {
 
         /** 1 for neighbours of unlike colours; the first shape has none ahead of it. */
         private int change(int latest, int next) {
-            if (latest < 0 || latest >= shapes.length || next < 0 || next >= shapes.length) {
-                return 0;
-            }
-            return shapes[latest].colour == shapes[next].colour ? 0 : 1;
+            return latest >= 0 && latest < unlike.length ? unlike[latest] >> next & 1 : 0;
         }
     }
 
@@ -618,16 +628,22 @@ public final class Threadneedle {
 
         /** The shape that a stitch is of; null, if there is no such stitch. */
         Shape shapeOf(int stitch) {
-            int place = placeOf(sequence, stitch);
-            return place >= 0 && place < sequence.length ? sequence[place] : null;
+            for (int place = 0; place < sequence.length; place++) {
+                Shape shape = sequence[place];
+                if (shape != null && stitch >= shape.begin && stitch < shape.end) {
+                    return shape;
+                }
+            }
+            return null;
         }
 
         /** How many stitches of a colour a piece needs. */
         int need(int colour) {
             int count = 0;
             for (int place = 0; place < sequence.length; place++) {
-                if (sequence[place].colour == colour) {
-                    count += sequence[place].end - sequence[place].begin;
+                Shape shape = sequence[place];
+                if (shape != null && shape.colour == colour) {
+                    count += shape.end - shape.begin;
                 }
             }
             return count;
@@ -636,30 +652,23 @@ public final class Threadneedle {
         private static int[] cellsOf(Shape[] sequence) {
             int count = 0;
             for (int place = 0; place < sequence.length; place++) {
-                count += sequence[place].stitchCount();
+                count += sequence[place] == null ? 0 : sequence[place].stitchCount();
             }
             int[] cells = new int[count];
             int from = 0;
             for (int place = 0; place < sequence.length; place++) {
-                sequence[place].putStitches(cells, from);
-                from = sequence[place].end;
-            }
-            return cells;
-        }
-
-        private static int placeOf(Shape[] sequence, int stitch) {
-            for (int place = 0; place < sequence.length; place++) {
-                if (stitch >= sequence[place].begin && stitch < sequence[place].end) {
-                    return place;
+                if (sequence[place] != null) {
+                    sequence[place].putStitches(cells, from);
+                    from = sequence[place].end;
                 }
             }
-            return NONE;
+            return cells;
         }
 
         private static int countChanges(Shape[] sequence) {
             int count = 0;
             for (int place = 1; place < sequence.length; place++) {
-                count += sequence[place - 1].colour == sequence[place].colour ? 0 : 1;
+                count += sequence[place] != null && sequence[place].isUnlike(sequence[place - 1]) ? 1 : 0;
             }
             return count;
         }
@@ -668,10 +677,13 @@ public final class Threadneedle {
             int count = 0;
             for (int place = 0; place < sequence.length; place++) {
                 Shape shape = sequence[place];
+                if (shape == null) {
+                    continue;
+                }
                 for (int k = Math.max(shape.begin, 1); k < shape.end && k < cells.length; k++) {
                     // Only ahead of a shape's first stitch can there be one of another shape.
-                    boolean isLike = k > shape.begin || place > 0 && sequence[place - 1].colour == shape.colour;
-                    if (isLike && isFar(cells[k - 1], cells[k])
+                    boolean isUnlike = k == shape.begin && shape.isUnlike(shapeAt(sequence, place - 1));
+                    if (!isUnlike && isFar(cells[k - 1], cells[k])
                             && isHiddenJump(sequence, place, cells[k - 1], cells[k]) == isHidden) {
                         count++;
                     }
@@ -689,7 +701,7 @@ public final class Threadneedle {
             int x = (xOf(cell) + xOf(next)) / 2;
             int y = (yOf(cell) + yOf(next)) / 2;
             for (int behind = Math.max(place, 0) + 1; behind < sequence.length; behind++) {
-                if (sequence[behind].hasCell(x, y)) {
+                if (sequence[behind] != null && sequence[behind].hasCell(x, y)) {
                     return true;
                 }
             }
@@ -800,7 +812,8 @@ public final class Threadneedle {
             }
             Shape[] sequence = design.sequence;
             for (int place = 0; place < sequence.length; place++) {
-                if (sequence[place].colour == colour && sequence[place].begin < begun) {
+                Shape shape = sequence[place];
+                if (shape != null && shape.colour == colour && shape.begin < begun) {
                     return true;
                 }
             }
